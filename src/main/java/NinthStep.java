@@ -169,7 +169,7 @@ public final class NinthStep {
         if (is && now.ground.forbids(what, place)) {
             return refuse(STUCK);
         }
-        if (now.ground.has(what, place) == is) {
+        if (isIn(now.ground.allOf(what), place) == is) {
             return 0;
         }
         now.ground.mark(what, place, is);
@@ -276,7 +276,7 @@ public final class NinthStep {
         }
         int all = 0;
         for (int what = 0; what < MARKS; what++) {
-            if (now.ground.has(what, place)) {
+            if (isIn(now.ground.allOf(what), place)) {
                 all |= 1 << what;
             }
         }
@@ -334,7 +334,7 @@ public final class NinthStep {
 
     public int falls(int mule) {
         Mule m = now.muleAt(mule);
-        return m == null ? refuse(BAD) : firstOf(stopsOf(m) & now.ground.allOf(CLIFF));
+        return m == null ? refuse(BAD) : firstOf(stopsOf(m) & now.ground.cliffs);
     }
 
     public int missed(int mule) {
@@ -351,7 +351,7 @@ public final class NinthStep {
         if (fewest == NONE || place == NONE) {
             return fewest;
         }
-        return turnPlan.madeAt(place, m);
+        return turnPlan.madeAt(place);
     }
 
     public int roped(int mule, int other, int what) {
@@ -433,7 +433,11 @@ public final class NinthStep {
         if (!isWithin(what, NONE, 1)) {
             return refuse(BAD);
         }
-        int fewest = stonePlan.make(now);
+        stonePlan.begin(now.ground);
+        for (int i = 0; i < now.herd; i++) {
+            stonePlan.heed(now.mules[i]);
+        }
+        int fewest = stonePlan.choose();
         if (fewest == NONE || what == NONE) {
             return fewest;
         }
@@ -456,7 +460,7 @@ public final class NinthStep {
         if (seen == 0L) {
             return refuse(BAD);
         }
-        return what == 0 ? pairsBy(seen) : numbersBy(seen);
+        return pairsBy(seen, what == 1);
     }
 
     public int sure(int mule, int f) {
@@ -487,7 +491,7 @@ public final class NinthStep {
         int found = NONE;
         int most = NONE;
         for (int i = 0; i < now.herd; i++) {
-            int fallen = Long.bitCount(stopsOf(now.mules[i]) & now.ground.allOf(CLIFF));
+            int fallen = Long.bitCount(stopsOf(now.mules[i]) & now.ground.cliffs);
             if (fallen > most) {
                 most = fallen;
                 found = i;
@@ -651,13 +655,13 @@ public final class NinthStep {
             case SLOW:
                 return m.restTime();
             case LOOSE:
-                return Long.bitCount(ground.allAbove(STONE, m.at));
+                return Long.bitCount(ground.stones & above(m.at));
             case SHY:
-                return Long.bitCount(ground.allAbove(CLIFF, m.at));
+                return Long.bitCount(ground.cliffs & above(m.at));
             case DOUBLER:
-                return Long.bitCount(ground.allAbove(INN, m.at));
+                return Long.bitCount(ground.inns & above(m.at));
             case SURE:
-                return firstOf(ground.allAbove(INN, m.at));
+                return firstOf(ground.inns & above(m.at));
             default:
                 return m.number;
         }
@@ -670,9 +674,7 @@ public final class NinthStep {
     /** The PLACES of all STOPS, as bits: a JOURNEY comes to each PLACE once. */
     private long stopsBy(Mule m, int start, int number, int count) {
         walker.takeFrom(m);
-        walker.at = start;
-        walker.number = number;
-        walker.count = count;
+        walker.standAt(start, count, number);
         long places = 0L;
         for (int place = start + 1; place <= now.ground.end; place++) {
             if (walker.makeStep(now.ground, 0)) {
@@ -687,16 +689,14 @@ public final class NinthStep {
     }
 
     private long viewsMissed(int at, long places) {
-        return now.ground.allAbove(VIEW, at) & ~places;
+        return now.ground.views & above(at) & ~places;
     }
 
     private boolean isGood(int at, long places) {
-        return (places & now.ground.allOf(CLIFF)) == 0L && viewsMissed(at, places) == 0L;
+        return (places & now.ground.cliffs) == 0L && viewsMissed(at, places) == 0L;
     }
 
-    /**
-     * Both only go up, so the lowest PLACE at which their stays overlap is the one of the first minute.
-     */
+    /** Both only go up, so the lowest PLACE at which their stays overlap is that of the first minute. */
     private int firstTogether(Mule m, Mule o) {
         long places = stopsOf(m);
         long others = stopsOf(o);
@@ -751,7 +751,7 @@ public final class NinthStep {
         for (int i = 0; i < now.herd; i++) {
             long places = stopsOf(now.mules[i]);
             for (int place = 0; place < PLACES; place++) {
-                crowds[place] += (int) (places >>> place & 1L);
+                crowds[place] += isIn(places, place) ? 1 : 0;
             }
         }
     }
@@ -786,28 +786,19 @@ public final class NinthStep {
         return told;
     }
 
-    private int pairsBy(long seen) {
+    /** How many pairs of NUMBER and COUNT would be seen so, or their NUMBERS as bits. */
+    private int pairsBy(long seen, boolean asBits) {
         int pairs = 0;
-        for (int number = LEAST_NUMBER; number <= MOST_NUMBER; number++) {
-            for (int count = 0; count < number; count++) {
-                if (wouldBeSeen(number, count, seen)) {
-                    pairs++;
-                }
-            }
-        }
-        return pairs;
-    }
-
-    private int numbersBy(long seen) {
         int bits = 0;
         for (int number = LEAST_NUMBER; number <= MOST_NUMBER; number++) {
             for (int count = 0; count < number; count++) {
                 if (wouldBeSeen(number, count, seen)) {
+                    pairs++;
                     bits |= 1 << number;
                 }
             }
         }
-        return bits;
+        return asBits ? bits : pairs;
     }
 
     private boolean wouldBeSeen(int number, int count, long seen) {
@@ -815,7 +806,7 @@ public final class NinthStep {
         walker.count = count;
         int lastSeen = lastOf(seen);
         for (int place = 1; place <= lastSeen; place++) {
-            if (walker.makeStep(now.ground, 0) != ((seen & bit(place)) != 0L)) {
+            if (walker.makeStep(now.ground, 0) != isIn(seen, place)) {
                 return false;
             }
         }
@@ -837,10 +828,10 @@ public final class NinthStep {
         return v >= low && v <= high;
     }
 
-    private static boolean isUnder(int kind, int above) {
+    private static boolean isUnder(int kind, int higher) {
         int k = kind;
-        for (int i = 0; i < KINDS && isWithin(k, 0, KINDS - 1); i++) {
-            if (k == above) {
+        for (int i = 0; i < KINDS && k >= 0 && k < KINDS; i++) {
+            if (k == higher) {
                 return true;
             }
             k = ABOVE[k];
@@ -858,6 +849,14 @@ public final class NinthStep {
         }
     }
 
+    private static boolean isIn(long places, int place) {
+        return (places >>> place & 1L) != 0L;
+    }
+
+    private static long above(int place) {
+        return -2L << place;
+    }
+
     private static long bit(int place) {
         return 1L << place;
     }
@@ -870,42 +869,59 @@ public final class NinthStep {
         return places == 0L ? NONE : 63 - Long.numberOfLeadingZeros(places);
     }
 
-    /** The END and what is at the PLACES: for each STONE, INN, CLIFF, VIEW the PLACES as bits. */
+    /** The END, and the PLACES, as bits, at which there is a STONE, an INN, a CLIFF, a VIEW. */
     private static final class Ground {
         private int end = FIRST_END;
-        private final long[] marks = new long[MARKS];
+        private long stones;
+        private long inns;
+        private long cliffs;
+        private long views;
 
         private void takeFrom(Ground other) {
             end = other.end;
-            for (int what = 0; what < MARKS; what++) {
-                marks[what] = other.marks[what];
-            }
+            stones = other.stones;
+            inns = other.inns;
+            cliffs = other.cliffs;
+            views = other.views;
         }
 
         private long allOf(int what) {
-            return isWithin(what, 0, MARKS - 1) ? marks[what] : 0L;
-        }
-
-        private long allAbove(int what, int place) {
-            return allOf(what) & -2L << place;
-        }
-
-        private boolean has(int what, int place) {
-            return (allOf(what) >>> place & 1L) != 0L;
+            switch (what) {
+                case STONE:
+                    return stones;
+                case INN:
+                    return inns;
+                case CLIFF:
+                    return cliffs;
+                default:
+                    return views;
+            }
         }
 
         private void mark(int what, int place, boolean is) {
-            if (isWithin(what, 0, MARKS - 1)) {
-                marks[what] = is ? marks[what] | bit(place) : marks[what] & ~bit(place);
+            long places = is ? allOf(what) | bit(place) : allOf(what) & ~bit(place);
+            switch (what) {
+                case STONE:
+                    stones = places;
+                    break;
+                case INN:
+                    inns = places;
+                    break;
+                case CLIFF:
+                    cliffs = places;
+                    break;
+                default:
+                    views = places;
+                    break;
             }
         }
 
         private boolean forbids(int what, int place) {
-            return (what == CLIFF && has(VIEW, place)) || (what == VIEW && has(CLIFF, place));
+            return (what == CLIFF && isIn(views, place)) || (what == VIEW && isIn(cliffs, place));
         }
 
         private int highest() {
-            return lastOf(marks[STONE] | marks[INN] | marks[CLIFF] | marks[VIEW]);
+            return lastOf(stones | inns | cliffs | views);
         }
     }
 
@@ -949,14 +965,20 @@ public final class NinthStep {
             return Math.min(count, Math.min(number, MOST_DOUBLED - 1));
         }
 
+        private void standAt(int place, int newCount, int newNumber) {
+            at = place;
+            count = newCount;
+            number = newNumber;
+        }
+
         /** A STEP, whose COUNT is some more besides; tells whether it STOPS. */
         private boolean makeStep(Ground ground, int besides) {
             at++;
             count += 1 + besides;
-            if (ground.has(STONE, at)) {
-                count += stoneWeight();
+            if (isIn(ground.stones, at) && !isUnder(kind, LOOSE)) {
+                count++;
             }
-            boolean atInn = ground.has(INN, at);
+            boolean atInn = isIn(ground.inns, at);
             boolean stopped = mayStop(ground) || (atInn && kind == SURE);
             if (stopped) {
                 count = 0;
@@ -978,7 +1000,7 @@ public final class NinthStep {
         }
 
         private boolean mayStop(Ground ground) {
-            return count >= number && !(kind == SHY && ground.has(CLIFF, at));
+            return count >= number && !(kind == SHY && isIn(ground.cliffs, at));
         }
 
         /** The minute at which it comes to a PLACE not below AT, if these are its STOPS. */
@@ -1042,7 +1064,7 @@ public final class NinthStep {
 
         private void restInTruth(Mule m) {
             m.rested += m.restTime();
-            if (ground.has(CLIFF, m.at)) {
+            if (isIn(ground.cliffs, m.at)) {
                 fell++;
             }
         }
@@ -1264,10 +1286,10 @@ public final class NinthStep {
         }
 
         private static int sortOf(int letter) {
-            if (isWithin(letter, 'a', 'z')) {
+            if (letter >= 'a' && letter <= 'z') {
                 return WORD;
             }
-            if (isWithin(letter, '0', '9')) {
+            if (letter >= '0' && letter <= '9') {
                 return NUMBER;
             }
             return letter == ';' ? SIGN : STRANGE;
@@ -1284,83 +1306,79 @@ public final class NinthStep {
         private final Mule trial = new Mule();
         private Ground ground;
         private int start;
+        private int firstCount;
 
         /** How many TURNS; NONE if no TURNS do. */
         private int make(Mule m, Ground onGround) {
             ground = onGround;
             start = m.at;
+            firstCount = m.cappedCount();
             tellNumbers(m, ground, trial, numberAt);
             for (int count = 0; count < COUNTS; count++) {
                 needed[cellOf(ground.end, count)] = hasSeen(ground.end, count) ? 0 : FAR;
             }
             for (int place = ground.end - 1; place >= start; place--) {
-                fillPlace(m, place);
+                fillPlace(place);
             }
-            int fewest = needed[cellOf(start, m.cappedCount())];
+            int fewest = needed[cellOf(start, firstCount)];
             return fewest >= FAR ? NONE : fewest;
         }
 
-        /** How many TURNS the made plan has at a PLACE. */
-        private int madeAt(int place, Mule m) {
-            if (place < start || place >= ground.end) {
-                return 0;
-            }
-            int count = m.cappedCount();
+        /** How many TURNS the plan that was made has at a PLACE. */
+        private int madeAt(int place) {
             int made = 0;
-            for (int p = start; p <= place; p++) {
-                made = fewestFirst(m, p, count);
-                needWith(m, p, count, made);
+            int count = firstCount;
+            for (int p = start; p <= place && p < ground.end; p++) {
+                made = fewestFirst(p, count);
+                needWith(p, count, made);
                 count = trial.cappedCount();
             }
-            return made;
+            return place < start || place >= ground.end ? 0 : made;
         }
 
-        private void fillPlace(Mule m, int place) {
+        private void fillPlace(int place) {
             int most = Math.min(numberAt[place], COUNTS - 1);
             for (int count = 0; count <= most; count++) {
                 int least = FAR;
-                for (int k = 0; k <= MOST_TURNS; k++) {
-                    least = Math.min(least, needWith(m, place, count, k));
+                for (int k = 0; k <= MOST_TURNS && k < least; k++) {
+                    least = Math.min(least, needWith(place, count, k));
                 }
                 needed[cellOf(place, count)] = least;
             }
         }
 
-        private int fewestFirst(Mule m, int place, int count) {
+        private int fewestFirst(int place, int count) {
             int need = needed[cellOf(place, count)];
             for (int k = 0; k < MOST_TURNS; k++) {
-                if (needWith(m, place, count, k) == need) {
+                if (needWith(place, count, k) == need) {
                     return k;
                 }
             }
             return MOST_TURNS;
         }
 
-        /** How many are needed from a PLACE on with k of them there; the trial is one STEP on then. */
-        private int needWith(Mule m, int place, int count, int k) {
-            trial.takeFrom(m);
-            trial.at = place;
-            trial.count = count;
-            trial.number = numberAt[place];
+        /** How many are needed from a PLACE on with k of them there; if that can be, the trial is one STEP on then. */
+        private int needWith(int place, int count, int k) {
+            trial.standAt(place, count, numberAt[place]);
             boolean seen = hasSeen(place, count);
             for (int i = 0; i < k; i++) {
                 if (trial.makeTurn(ground)) {
-                    if (ground.has(CLIFF, place)) {
+                    if (isIn(ground.cliffs, place)) {
                         return FAR;
                     }
                     seen = true;
                 }
             }
-            boolean falls = trial.makeStep(ground, 0) && ground.has(CLIFF, trial.at);
+            boolean falls = trial.makeStep(ground, 0) && isIn(ground.cliffs, trial.at);
             if (!seen || falls) {
                 return FAR;
             }
             return Math.min(FAR, k + needed[cellOf(place + 1, trial.cappedCount())]);
         }
 
-        /** Behind a STEP COUNT is 0 only if it STOPPED; what is AT the start needn't be seen. */
+        /** Behind a STEP COUNT is 0 only if it STOPPED; a VIEW at the start needn't be stopped at. */
         private boolean hasSeen(int place, int count) {
-            return place == start || count == 0 || !ground.has(VIEW, place);
+            return place == start || count == 0 || !isIn(ground.views, place);
         }
 
         private static int cellOf(int place, int count) {
@@ -1387,29 +1405,28 @@ public final class NinthStep {
         private int first;
         private int second;
 
-        /** How many STONES; NONE if 2 don't do. */
-        private int make(World world) {
-            ground = world.ground;
+        private void begin(Ground onGround) {
+            ground = onGround;
             needsNone = true;
             singles = -1L;
             for (int place = 0; place < PLACES; place++) {
                 seconds[place] = -1L;
             }
-            for (int i = 0; i < world.herd; i++) {
-                heed(world.mules[i]);
-            }
-            return needsNone ? 0 : choose();
         }
 
+        /** How many STONES; NONE if 2 don't do. */
         private int choose() {
-            long free = bit(ground.end + 1) - 2 & ~ground.allOf(STONE);
+            if (needsNone) {
+                return 0;
+            }
+            long free = bit(ground.end + 1) - 2 & ~ground.stones;
             if ((singles & free) != 0L) {
                 first = firstOf(singles & free);
                 return 1;
             }
             for (int place = 1; place <= ground.end; place++) {
-                long others = seconds[place] & free & -2L << place;
-                if ((free & bit(place)) != 0L && others != 0L) {
+                long others = seconds[place] & free & above(place);
+                if (isIn(free, place) && others != 0L) {
                     first = place;
                     second = firstOf(others);
                     return 2;
@@ -1422,7 +1439,7 @@ public final class NinthStep {
         private void heed(Mule m) {
             fillSafe(m);
             boolean safeNow = isSafe(m);
-            long alone = helpersAhead(m) | (safeNow ? ~(-2L << m.at) : 0L);
+            long alone = helpersAhead(m) | (safeNow ? ~above(m.at) : 0L);
             needsNone &= safeNow;
             singles &= alone;
             for (int place = 0; place <= m.at && place < PLACES; place++) {
@@ -1445,19 +1462,16 @@ public final class NinthStep {
                 safe[place] = 0L;
                 int most = Math.min(numberAt[place], MOST_DOUBLED - 1);
                 for (int count = 0; count <= most; count++) {
-                    trial.takeFrom(m);
-                    trial.at = place;
-                    trial.count = count;
-                    trial.number = numberAt[place];
+                    trial.standAt(place, count, numberAt[place]);
                     if (!fallsNext(trial, 0) && isSafe(trial)) {
-                        safe[place] |= 1L << count;
+                        safe[place] |= bit(count);
                     }
                 }
             }
         }
 
         private boolean isSafe(Mule m) {
-            return (safe[m.at] >>> m.cappedCount() & 1L) != 0L;
+            return isIn(safe[m.at], m.cappedCount());
         }
 
         /** The PLACES ahead at which one new STONE would do. */
@@ -1477,7 +1491,7 @@ public final class NinthStep {
         }
 
         private boolean fallsNext(Mule m, int besides) {
-            return m.makeStep(ground, besides) && ground.has(CLIFF, m.at);
+            return m.makeStep(ground, besides) && isIn(ground.cliffs, m.at);
         }
     }
 
@@ -1492,9 +1506,9 @@ public final class NinthStep {
             }
             parts[Math.max(0, Math.min(m.count, MOST_DOUBLED))] = MILLION;
             for (int place = m.at + 1; place <= ground.end; place++) {
-                int further = ground.has(STONE, place) ? 2 : 1;
+                int further = isIn(ground.stones, place) ? 2 : 1;
                 spread(further, m.number, f);
-                if (ground.has(CLIFF, place)) {
+                if (isIn(ground.cliffs, place)) {
                     parts[0] = 0;
                 }
             }

@@ -69,20 +69,20 @@ public final class JourneyTest {
         Due.is("22: -1", x.after(1, -1), -2);
         Due.is("22: 401", x.after(1, 401), -2);
         Due.is("22: no mule", x.after(6, 0), -2);
-        x = slowest();
+        x = slowest(60, 9);
         Due.is("22: still on the way", x.after(0, 400), 37);
         Due.is("22: at rest", x.after(0, 396), 36);
         Due.is("21: long", x.minutes(0), 660);
     }
 
-    /** A stop at each of 60 places, of 10 minutes each. */
-    private static NinthStep slowest() {
+    /** A stop at each place, of 1 and a minutes. */
+    private static NinthStep slowest(int end, int a) {
         NinthStep y = new NinthStep();
-        y.length(60);
-        for (int p = 1; p <= 60; p++) {
+        y.length(end);
+        for (int p = 1; p <= end; p++) {
             y.put(p, 0, true);
         }
-        y.mule(1, 2, 9);
+        y.mule(1, 2, a);
         return y;
     }
 
@@ -134,9 +134,13 @@ public final class JourneyTest {
         Due.is("28: at once", x.meets(0, 2), 0);
         x.stand(1, 30, 0);
         Due.is("28: at the end", x.meets(0, 1), 32);
-        x = slowest();
+        x = slowest(58, 5);
         x.mule(2, 2, 0);
-        x.stand(1, 60, 0);
+        x.stand(1, 58, 0);
+        Due.is("28: in 400", x.meets(0, 1), 400);
+        x = slowest(59, 5);
+        x.mule(2, 2, 0);
+        x.stand(1, 59, 0);
         Due.is("28: not in 400", x.meets(0, 1), -1);
         Due.is("28: NONE is not refused", x.status(12), 0);
         Due.is("28: one twice", x.meets(0, 0), -2);

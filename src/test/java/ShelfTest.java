@@ -42,6 +42,9 @@ public final class ShelfTest {
         Due.is("2: row of none", x.row(7, 2, 0), 1);
         Due.is("2: set in a row of none", x.set(7, 0, 1), -2);
         x.set(0, 0, 9);
+        Due.is("3: the last of 40", x.set(1, 39, 9), 1);
+        Due.is("3: element", x.element(1, 39), 9);
+        Due.is("3: behind it", x.set(1, 40, 9), -2);
         Due.is("2: a new row in its place", x.row(0, 0, 2), 1);
         Due.is("2: is new", x.element(0, 0), 0);
         Due.is("2: shelf -1", x.row(-1, 0, 1), -2);
@@ -51,7 +54,7 @@ public final class ShelfTest {
         Due.is("2: n -1", x.row(0, 0, -1), -2);
         Due.is("2: n 41", x.row(0, 0, 41), -2);
         Due.is("2: the shelf is as it was", x.holds(0), 0);
-        Due.is("2: refused", x.status(12), 7);
+        Due.is("2: refused", x.status(12), 8);
     }
 
     private static void set() {

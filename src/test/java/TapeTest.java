@@ -77,6 +77,11 @@ public final class TapeTest {
     private static void faultsOfTokens() {
         x = new NinthStep();
         Due.passIs(x, "stones 3", -20);
+        Due.passIs(x, "stonez 3", -20);
+        Due.passIs(x, "stone{", -25);
+        Due.passIs(x, "astone 3", -20);
+        Due.passIs(x, "ttone 3", -20);
+        Due.passIs(x, "nule 0 3 0", -20);
         Due.passIs(x, "  Stone 3", -22);
         Due.passIs(x, "stone;", -25);
         Due.passIs(x, "stone 3 4", -28);
@@ -93,7 +98,7 @@ public final class TapeTest {
         Due.passIs(x, "mule 0 3 0 4", -31);
         Due.passIs(x, "mule 0 3 at 1", -29);
         Due.passIs(x, "stone 3;\u00ff", -28);
-        Due.is("17: each is refused", x.status(12), 17);
+        Due.is("17: each is refused", x.status(12), 22);
         Due.is("17: nothing came of them", x.status(1) + x.status(2), 0);
     }
 

@@ -347,6 +347,10 @@ public final class NinthStep {
         if (m == null || (place != NONE && !isPlace(place))) {
             return refuse(BAD);
         }
+        // What is good as it is needs no plan, which is dear.
+        if (isGood(m.at, stopsOf(m))) {
+            return 0;
+        }
         int fewest = turnPlan.make(m, now.ground);
         if (fewest == NONE || place == NONE) {
             return fewest;
@@ -433,11 +437,15 @@ public final class NinthStep {
         if (!isWithin(what, NONE, 1)) {
             return refuse(BAD);
         }
-        stonePlan.begin(now.ground);
-        for (int i = 0; i < now.herd; i++) {
-            stonePlan.heed(now.mules[i]);
+        int fewest = NONE;
+        // More STONES are dearer to try, so fewer come first.
+        if (!stonePlan.isAnyNeeded(now)) {
+            fewest = 0;
+        } else if (stonePlan.isOneEnough(now)) {
+            fewest = 1;
+        } else if (stonePlan.isPairEnough(now)) {
+            fewest = 2;
         }
-        int fewest = stonePlan.choose();
         if (fewest == NONE || what == NONE) {
             return fewest;
         }
@@ -653,7 +661,7 @@ public final class NinthStep {
         Ground ground = now.ground;
         switch (kind) {
             case SLOW:
-                return m.restTime();
+                return m.restTime;
             case LOOSE:
                 return Long.bitCount(ground.stones & above(m.at));
             case SHY:
@@ -685,7 +693,7 @@ public final class NinthStep {
     }
 
     private int minutesOf(Mule m) {
-        return now.ground.end - m.at + m.restTime() * Long.bitCount(stopsOf(m));
+        return now.ground.end - m.at + m.restTime * Long.bitCount(stopsOf(m));
     }
 
     private long viewsMissed(int at, long places) {
@@ -932,6 +940,9 @@ public final class NinthStep {
         private int count;
         private int rested;
         private int a;
+        /** Minutes of a STOP, and what a STONE adds to COUNT: both come of KIND and a. */
+        private int restTime;
+        private int stoneWeight;
 
         private void become(int newKind, int newNumber, int newA) {
             kind = newKind;
@@ -940,6 +951,8 @@ public final class NinthStep {
             at = 0;
             count = 0;
             rested = 0;
+            restTime = isUnder(kind, SLOW) ? 1 + a : 1;
+            stoneWeight = isUnder(kind, LOOSE) ? 0 : 1;
         }
 
         private void takeFrom(Mule other) {
@@ -949,15 +962,8 @@ public final class NinthStep {
             count = other.count;
             rested = other.rested;
             a = other.a;
-        }
-
-        private int restTime() {
-            return isUnder(kind, SLOW) ? 1 + a : 1;
-        }
-
-        /** What one STONE adds to COUNT. */
-        private int stoneWeight() {
-            return isUnder(kind, LOOSE) ? 0 : 1;
+            restTime = other.restTime;
+            stoneWeight = other.stoneWeight;
         }
 
         /** COUNT, but no more than can matter: at NUMBER or above a SHY one only waits for a PLACE. */
@@ -975,10 +981,10 @@ public final class NinthStep {
         private boolean makeStep(Ground ground, int besides) {
             at++;
             count += 1 + besides;
-            if (isIn(ground.stones, at) && !isUnder(kind, LOOSE)) {
-                count++;
+            if ((ground.stones >>> at & 1L) != 0L) {
+                count += stoneWeight;
             }
-            boolean atInn = isIn(ground.inns, at);
+            boolean atInn = (ground.inns >>> at & 1L) != 0L;
             boolean stopped = mayStop(ground) || (atInn && kind == SURE);
             if (stopped) {
                 count = 0;
@@ -1000,12 +1006,12 @@ public final class NinthStep {
         }
 
         private boolean mayStop(Ground ground) {
-            return count >= number && !(kind == SHY && isIn(ground.cliffs, at));
+            return count >= number && (kind != SHY || (ground.cliffs >>> at & 1L) == 0L);
         }
 
         /** The minute at which it comes to a PLACE not below AT, if these are its STOPS. */
         private int arrival(int place, long places) {
-            return place - at + restTime() * Long.bitCount(places & (bit(place) - 1));
+            return place - at + restTime * Long.bitCount(places & (bit(place) - 1));
         }
     }
 
@@ -1063,7 +1069,7 @@ public final class NinthStep {
         }
 
         private void restInTruth(Mule m) {
-            m.rested += m.restTime();
+            m.rested += m.restTime;
             if (isIn(ground.cliffs, m.at)) {
                 fell++;
             }
@@ -1400,57 +1406,81 @@ public final class NinthStep {
         private final Mule inner = new Mule();
         private final Mule trial = new Mule();
         private Ground ground;
-        private boolean needsNone;
-        private long singles;
         private int first;
         private int second;
 
-        private void begin(Ground onGround) {
-            ground = onGround;
-            needsNone = true;
-            singles = -1L;
-            for (int place = 0; place < PLACES; place++) {
-                seconds[place] = -1L;
-            }
-        }
-
-        /** How many STONES; NONE if 2 don't do. */
-        private int choose() {
-            if (needsNone) {
-                return 0;
-            }
-            long free = bit(ground.end + 1) - 2 & ~ground.stones;
-            if ((singles & free) != 0L) {
-                first = firstOf(singles & free);
-                return 1;
-            }
-            for (int place = 1; place <= ground.end; place++) {
-                long others = seconds[place] & free & above(place);
-                if (isIn(free, place) && others != 0L) {
-                    first = place;
-                    second = firstOf(others);
-                    return 2;
+        private boolean isAnyNeeded(World world) {
+            ground = world.ground;
+            for (int i = 0; i < world.herd; i++) {
+                if (fallsAsItIs(world.mules[i])) {
+                    return true;
                 }
             }
-            return NONE;
+            return false;
         }
 
-        /** Leaves of all choices those that keep this MULE, too, from the CLIFFS. */
-        private void heed(Mule m) {
+        private boolean isOneEnough(World world) {
+            ground = world.ground;
+            long singles = freePlaces();
+            for (int i = 0; i < world.herd && singles != 0L; i++) {
+                singles &= helpersFor(world.mules[i]);
+            }
+            first = firstOf(singles);
+            return singles != 0L;
+        }
+
+        private boolean isPairEnough(World world) {
+            ground = world.ground;
+            long free = freePlaces();
+            for (int place = 0; place < PLACES; place++) {
+                seconds[place] = isIn(free, place) ? free & above(place) : 0L;
+            }
+            for (int i = 0; i < world.herd; i++) {
+                heedSeconds(world.mules[i], helpersFor(world.mules[i]));
+            }
+            for (int place = 0; place < PLACES; place++) {
+                if (seconds[place] != 0L) {
+                    first = place;
+                    second = firstOf(seconds[place]);
+                    return true;
+                }
+            }
+            return false;
+        }
+
+        private long freePlaces() {
+            return bit(ground.end + 1) - 2 & ~ground.stones;
+        }
+
+        private boolean fallsAsItIs(Mule m) {
+            outer.takeFrom(m);
+            for (int place = m.at; place < ground.end; place++) {
+                if (fallsNext(outer, 0)) {
+                    return true;
+                }
+            }
+            return false;
+        }
+
+        /** The PLACES, also those behind it, at which one new STONE would do; this also fills what is safe. */
+        private long helpersFor(Mule m) {
             fillSafe(m);
-            boolean safeNow = isSafe(m);
-            long alone = helpersAhead(m) | (safeNow ? ~above(m.at) : 0L);
-            needsNone &= safeNow;
-            singles &= alone;
+            return helpersAhead(m) | (isSafe(m) ? ~above(m.at) : 0L);
+        }
+
+        /** Leaves of the second STONES those that keep this MULE, too, from the CLIFFS. */
+        private void heedSeconds(Mule m, long alone) {
             for (int place = 0; place <= m.at && place < PLACES; place++) {
                 seconds[place] &= alone;
             }
             outer.takeFrom(m);
             boolean fallen = false;
             for (int place = m.at + 1; place <= ground.end; place++) {
-                branch.takeFrom(outer);
-                boolean helps = !fallen && !fallsNext(branch, m.stoneWeight());
-                seconds[place] &= helps ? helpersAhead(branch) : 0L;
+                if (seconds[place] != 0L) {
+                    branch.takeFrom(outer);
+                    boolean helps = !fallen && !fallsNext(branch, m.stoneWeight);
+                    seconds[place] &= helps ? helpersAhead(branch) : 0L;
+                }
                 fallen = fallen || fallsNext(outer, 0);
             }
         }
@@ -1480,7 +1510,7 @@ public final class NinthStep {
             inner.takeFrom(m);
             for (int place = m.at + 1; place <= ground.end; place++) {
                 trial.takeFrom(inner);
-                if (!fallsNext(trial, m.stoneWeight()) && isSafe(trial)) {
+                if (!fallsNext(trial, m.stoneWeight) && isSafe(trial)) {
                     helpers |= bit(place);
                 }
                 if (fallsNext(inner, 0)) {

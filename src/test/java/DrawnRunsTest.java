@@ -2,14 +2,17 @@ import java.util.Random;
 
 /** Drawn runs of calls, each answer compared with that of the plain model. */
 public final class DrawnRunsTest {
-    private static final int RUNS = 1200;
-    private static final int CALLS = 300;
+    private static final int RUNS = 4000;
+    /** What the document allows, and what compareState takes of it at most. */
+    private static final int MOST_CALLS = 512;
+    private static final int LOOK = 202;
     private static final int METHODS = 46;
 
     private final Random draws;
     private final NinthStep x = new NinthStep();
     private final PlainModel y = new PlainModel();
     private final StringBuilder told = new StringBuilder();
+    private int calls;
 
     private DrawnRunsTest(long seed) {
         draws = new Random(seed);
@@ -24,16 +27,22 @@ public final class DrawnRunsTest {
 
     private void go() {
         setUp();
-        for (int i = 0; i < CALLS && !Due.anyWrong(); i++) {
+        while (hasRoomFor(8) && !Due.anyWrong()) {
             call(draws.nextInt(METHODS));
         }
         compareState();
+        Due.is("calls of a run beyond those that the document allows", Math.max(0, calls - MOST_CALLS), 0);
         if (Due.anyWrong()) {
             System.out.println("the run: " + told);
         }
     }
 
+    private boolean hasRoomFor(int more) {
+        return calls + more + LOOK <= MOST_CALLS;
+    }
+
     private void due(String call, long got, long want) {
+        calls++;
         told.append(call).append(' ').append(got).append('\n');
         Due.is(call, got, want);
     }
@@ -197,6 +206,9 @@ public final class DrawnRunsTest {
         if (draws.nextInt(8) == 0) {
             text.setLength(draws.nextInt(text.length() + 1));
         }
+        if (!hasRoomFor(text.length() + 2)) {
+            return;
+        }
         due("wipe", x.wipe(), y.wipe());
         for (int i = 0; i < text.length() && i < 260; i++) {
             due("feed", x.feed(text.charAt(i)), y.feed(text.charAt(i)));
@@ -352,7 +364,9 @@ public final class DrawnRunsTest {
                 break;
             }
             default:
-                compareState();
+                if (hasRoomFor(LOOK)) {
+                    compareState();
+                }
                 break;
         }
     }

@@ -43,9 +43,10 @@ final class Edge {
         lookIs(sentence, before, call, code, look);
     }
 
-    /** The call is in thought: nothing at all changes, and NONE isn't refused. */
+    /** The call changes nothing at all, and isn't refused, even by NONE; so, asked again, it answers the same. */
     static void thinks(String sentence, String before, String call, long due) {
         lookIs(sentence, before, call, due, lookBehind(sentence, before));
+        does(sentence + ", asked again", before, call, due, call + " = " + due);
     }
 
     /** The call does something, and isn't refused; then come further calls, written as "status 1 = 6, holds 0 = -1". */

@@ -70,6 +70,7 @@ public final class EdgesOfPlansTest {
         String doubled = "length 60, put 1 1 1, put 2 1 1, put 3 1 1, mule 4 13 0, goes 0 3, stand 0 59 ";
         Edge.thinks("26: NUMBER 64, COUNT 60", doubled + "60, put 60 3 1", "turns 0 -1", 3);
         Edge.thinks("26: NUMBER 64, COUNT 59", doubled + "59, put 60 3 1", "turns 0 -1", -1);
+        Edge.thinks("26: NUMBER 64, COUNT 62", doubled + "62, put 60 3 1", "turns 0 -1", 1);
         Edge.thinks("26: NUMBER 64, COUNT 63", doubled + "63, put 60 2 1", "turns 0 -1", 1);
         Edge.thinks("26: many", "length 60, mule 0 12 0, " + Edge.fill(3, 3, 3) + ", put 6 3 1, put 9 3 1", "turns 0 -1", 27);
     }
@@ -104,9 +105,13 @@ public final class EdgesOfPlansTest {
 
     private static void turnsOfKinds() {
         turnsAre("SHY, COUNT above NUMBER", "length 3, put 0 2 1, put 1 2 1, put 2 3 1, mule 3 2 0, stand 0 0 1", 0, 0, 0, 0);
+        String waits = "length 2, put 0 2 1, put 2 3 1, mule 3 2 0, ";
+        turnsAre("SHY, COUNT far above NUMBER", waits + Edge.times(5, "turn 0"), 0, 1, 0);
+        turnsAre("SHY, COUNT farther above NUMBER", waits + Edge.times(90, "turn 0"), 0, 1, 0);
         turnsAre("SHY, TURNS at a CLIFF STOP not", "length 2, put 1 2 1, put 2 3 1, mule 3 3 0", 0, 1, 0);
         turnsAre("SHY, a VIEW behind CLIFFS", "length 4, put 1 2 1, put 2 2 1, put 4 3 1, mule 3 4 0", 0, 0, 0, 0, 0);
         turnsAre("DOUBLER, NUMBER is twice behind the INN", "length 3, put 1 1 1, put 3 3 1, mule 4 3 0", 0, 0, 3, 0);
+        turnsAre("DOUBLER, NUMBER is as it was ahead of the INN", "length 2, put 1 1 1, put 1 3 1, mule 4 3 0", 2, 0, 0);
         turnsAre("LOOSE, a STONE counts not", "length 2, put 1 0 1, put 2 3 1, mule 2 3 0", 0, 1, 0);
         turnsAre("SLOW, a STONE counts", "length 2, put 1 0 1, put 2 3 1, mule 1 3 0", 0, 0, 0);
         noTurns("SURE, an INN at a CLIFF", "length 2, put 1 1 1, put 1 2 1, mule 5 9 0", 2);
@@ -167,6 +172,10 @@ public final class EdgesOfPlansTest {
             1, 6);
         stonesAre("one for all six", "length 5, " + Edge.times(6, "mule 0 3 0") + ", put 3 2 1", 1);
         noStones("not for all MULES", "length 5, mule 0 3 0, mule 2 3 0, put 3 2 1");
+        stonesAre("not just above AT", "length 10, mule 0 4 0, put 2 2 1, put 3 2 1, put 7 2 1, put 8 2 1", 5, 6);
+        noStones("behind a CLIFF that can't be helped", "length 12, mule 0 6 0, put 6 2 1, stand 0 5 5");
+        stonesAre("below AT of another MULE", "length 11, put 4 2 1, put 9 2 1, mule 0 4 0, mule 0 3 0, stand 1 5 0", 1);
+        stonesAre("another MULE needs none", "length 11, put 4 2 1, put 7 2 1, mule 0 13 0, mule 0 4 0", 1, 2);
         stonesAre("60 PLACES", "length 60, mule 0 12 0, put 60 2 1", 1);
         stonesAre("60 PLACES, late", "length 60, mule 0 12 0, put 60 2 1, stand 0 58 10", 59);
     }
@@ -179,6 +188,11 @@ public final class EdgesOfPlansTest {
         stonesAre("DOUBLER", cliff + "mule 4 3 0", 1);
         stonesAre("DOUBLER, an INN ahead of the CLIFF", cliff + "put 1 1 1, mule 4 3 0");
         stonesAre("DOUBLER, twice NUMBER is at the CLIFF", "length 6, put 6 2 1, put 1 1 1, mule 4 3 0", 1);
+        String doubled = "length 60, put 1 1 1, put 2 1 1, put 3 1 1, put 4 2 1, mule 4 13 0, goes 0 3, stand 0 50 63";
+        stonesAre("DOUBLER, NUMBER 64, COUNT 63", doubled + ", mule 0 4 0", 1);
+        String waits = "length 9, put 5 2 1, put 6 2 1, put 4 2 1, mule 3 2 0, stand 0 5 1, ";
+        stonesAre("SHY, COUNT is NUMBER", waits + "turn 0, mule 0 4 0", 1);
+        stonesAre("SHY, COUNT far above NUMBER", waits + Edge.times(90, "turn 0") + ", mule 0 4 0", 1);
         noStones("SURE", cliff + "mule 5 3 0");
         noStones("SURE, by an INN", cliff + "put 3 1 1, mule 5 13 0");
     }
@@ -221,6 +235,7 @@ public final class EdgesOfPlansTest {
         Edge.thinks("30: bytes", Edge.join(HERD, Edge.rowOf(0, 0, 256, 257)), "train 0 2", 8);
         Edge.thinks("30: in another order", Edge.join(HERD, Edge.rowOf(0, 2, 5, 4, 3, 2, 1, 0)), "train 0 6", 10);
         Edge.thinks("30: from the greatest AT of all", Edge.join(HERD, "stand 3 9 0", Edge.rowOf(0, 2, 0, 3, 1)), "train 0 3", 2);
+        Edge.thinks("30: the greatest AT is the first's", Edge.join(HERD, "stand 0 9 0", Edge.rowOf(0, 2, 1, 0)), "train 0 2", 2);
         Edge.thinks("30: one at the END", Edge.join(HERD, "stand 3 12 0", Edge.rowOf(0, 2, 0, 3, 1)), "train 0 3", 0);
     }
 

@@ -9,6 +9,7 @@ public final class EdgesOfTapeTest {
         wipe();
         fullTape();
         tokens();
+        words();
         blanks();
         statements();
         bytesThatBeginNone();
@@ -86,6 +87,24 @@ public final class EdgesOfTapeTest {
         Edge.faults("17: a NUMBER with a part", "", "stone 3^.0");
         Edge.faults("17: a WORD that only stands behind others", "", "^at 3");
         Edge.faults("17: a WORD that only stands behind others", "", "^count 3");
+    }
+
+    /** Each letter of each WORD counts. */
+    private static void words() {
+        String[] first = {"length 30", "stone 3", "inn 3", "cliff 3", "view 3", "mule 0 5 3"};
+        String[] behind = {"at 3", "count 3"};
+        for (String text : first) {
+            for (int i = 0; text.charAt(i) != ' '; i++) {
+                Edge.faults("17: another letter", "", "^" + text.substring(0, i) + "x" + text.substring(i + 1));
+                Edge.faults("17: a letter less", "", "^" + text.substring(0, i) + text.substring(i + 1));
+            }
+        }
+        for (String text : behind) {
+            for (int i = 0; text.charAt(i) != ' '; i++) {
+                Edge.faults("17: another letter", "", "mule 0 5 3 ^" + text.substring(0, i) + "x" + text.substring(i + 1));
+                Edge.faults("17: a letter less", "", "mule 0 5 3 ^" + text.substring(0, i) + text.substring(i + 1));
+            }
+        }
     }
 
     private static void blanks() {
@@ -251,6 +270,8 @@ public final class EdgesOfTapeTest {
         Edge.faults("17: K is first", "", "mule ^6 14 10 at 31");
         Edge.faults("17: N is next", "", "mule 5 ^14 10 at 31");
         Edge.faults("17: then A", "", "mule 5 13 ^10 at 31");
+        Edge.reads("17: SLOW, by the greatest A", "", "length 2;mule 1 2 9", 2, "minutes 0 = 12, goes 0 2 = 2, muleOf 0 4 = 10");
+        Edge.reads("17: LOOSE, by a stone", "", "stone 1;mule 2 3 9;mule 0 3 9", 3, "stops 0 0 = 3, stops 1 0 = 2");
         Edge.reads("17: at first", "", "mule 5 13 9", 1, "muleOf 0 2 = 0, muleOf 0 3 = 0, muleOf 0 4 = 0");
     }
 
